@@ -88,8 +88,9 @@ public final class SphereSheets {
         if (items.missing()) {
             return found(NULL);
         }
+        int had = items.size;
         items.end();
-        return fine(items.size);
+        return fine(had);
     }
 
     // ---- covers
@@ -126,7 +127,7 @@ public final class SphereSheets {
         if (ground == null) {
             return found(NULL);
         }
-        if (p < 0 || p >= ground.parts()) {
+        if (p < 0 || p >= ground.parts) {
             return BAD;
         }
         return shelve(to, ground.partAlone(p));
@@ -459,7 +460,7 @@ public final class SphereSheets {
             case 1:
                 return ground.turns.length;
             case 2:
-                return ground.parts();
+                return ground.parts;
             case 3:
                 return ground.holes();
             case 4:
@@ -550,6 +551,7 @@ public final class SphereSheets {
 
         void end() {
             lane = NO_LANE;
+            size = 0;
         }
 
         // The end is taken off the size, for a sum could wrap around.
@@ -656,6 +658,17 @@ public final class SphereSheets {
             return joined;
         }
 
+        /** Labels of the PARTS. */
+        static long ledTogether(long[] turns, int n) {
+            long labels = still(n);
+            for (int j = 0; j < turns.length; j++) {
+                for (int x = 0; x < n; x++) {
+                    labels = merged(labels, at(labels, x), at(labels, at(turns[j], x)), n);
+                }
+            }
+            return labels;
+        }
+
         /** The SHEETS that bear their own label, a bit each. */
         static int leaders(long labels, int n) {
             int leaders = 0;
@@ -753,21 +766,27 @@ public final class SphereSheets {
     private static class Cover {
         final int n;
         final long[] turns;
+        final int parts;
 
-        Cover(int n, long[] turns) {
+        Cover(int n, long[] turns, int parts) {
             this.n = n;
             this.turns = turns;
+            this.parts = parts;
         }
 
         static Cover of(int n, long[] turns) {
+            int parts = Orders.groups(Orders.ledTogether(turns, n), n);
             if (turns.length != 3) {
-                return exchangesAhead(n, turns) ? new Simple(n, turns) : new Cover(n, turns);
+                return exchangesAhead(n, turns) ? new Simple(n, turns, parts) : new Cover(n, turns, parts);
             }
             long pairs = n / 2 * Lengths.one(2);
             if (n % 2 != 0 || Lengths.of(turns[2], n) != pairs) {
-                return new Three(n, turns);
+                return new Three(n, turns, parts);
             }
-            return Lengths.of(turns[1], n) == Lengths.one(n) ? new One(n, turns) : new Bristled(n, turns);
+            if (Lengths.of(turns[1], n) != Lengths.one(n)) {
+                return new Bristled(n, turns, parts);
+            }
+            return new One(n, turns, parts);
         }
 
         private static boolean exchangesAhead(int n, long[] turns) {
@@ -794,7 +813,7 @@ public final class SphereSheets {
 
         int markAsked(Row trace) {
             trace.add(20);
-            return parts();
+            return parts;
         }
 
         boolean noSheet(int sheet) {
@@ -825,23 +844,8 @@ public final class SphereSheets {
             return Lengths.total(Lengths.of(turnAt(j), n));
         }
 
-        long partLabels() {
-            long labels = Orders.still(n);
-            for (int j = 0; j < turns.length; j++) {
-                for (int x = 0; x < n; x++) {
-                    int led = Orders.at(turns[j], x);
-                    labels = Orders.merged(labels, Orders.at(labels, x), Orders.at(labels, led), n);
-                }
-            }
-            return labels;
-        }
-
-        int parts() {
-            return Orders.groups(partLabels(), n);
-        }
-
         boolean whole() {
-            return parts() == 1;
+            return parts == 1;
         }
 
         int holes() {
@@ -878,23 +882,24 @@ public final class SphereSheets {
         }
 
         Cover partAlone(int p) {
-            long labels = partLabels();
+            long labels = Orders.ledTogether(turns, n);
             int members = 0;
             for (int x = 0; x < n; x++) {
                 if (Orders.groups(labels, Orders.at(labels, x)) == p) {
                     members |= 1 << x;
                 }
             }
-            return narrowed(members, Orders.still(n));
+            return of(Integer.bitCount(members), narrowed(members, Orders.still(n)));
         }
 
         Cover ofBlocks(int a, int b) {
             long labels = blockLabels(a, b);
-            return narrowed(Orders.leaders(labels, n), labels);
+            int leaders = Orders.leaders(labels, n);
+            return of(Integer.bitCount(leaders), narrowed(leaders, labels));
         }
 
         /** The chosen SHEETS alone; where one is led to is told by the label there, which must be a chosen one. */
-        private Cover narrowed(int chosen, long labels) {
+        private long[] narrowed(int chosen, long labels) {
             long[] narrow = new long[turns.length];
             for (int j = 0; j < turns.length; j++) {
                 int next = 0;
@@ -906,7 +911,7 @@ public final class SphereSheets {
                     }
                 }
             }
-            return of(Integer.bitCount(chosen), narrow);
+            return narrow;
         }
 
         Cover ledPast(int j, boolean forward) {
@@ -943,8 +948,8 @@ public final class SphereSheets {
     }
 
     private static final class Simple extends Cover {
-        Simple(int n, long[] turns) {
-            super(n, turns);
+        Simple(int n, long[] turns, int parts) {
+            super(n, turns, parts);
         }
 
         @Override
@@ -960,8 +965,8 @@ public final class SphereSheets {
     }
 
     private static class Three extends Cover {
-        Three(int n, long[] turns) {
-            super(n, turns);
+        Three(int n, long[] turns, int parts) {
+            super(n, turns, parts);
         }
 
         @Override
@@ -984,8 +989,8 @@ public final class SphereSheets {
 
     /** A MAP. */
     private static class Bristled extends Three {
-        Bristled(int n, long[] turns) {
-            super(n, turns);
+        Bristled(int n, long[] turns, int parts) {
+            super(n, turns, parts);
         }
 
         @Override
@@ -1001,8 +1006,8 @@ public final class SphereSheets {
     }
 
     private static final class One extends Bristled {
-        One(int n, long[] turns) {
-            super(n, turns);
+        One(int n, long[] turns, int parts) {
+            super(n, turns, parts);
         }
 
         @Override
@@ -1127,7 +1132,7 @@ public final class SphereSheets {
             many = 0;
             namer.find(ground.turns, ground.n);
             keep(k);
-            for (int i = 0; i < many; i++) {
+            for (int i = 0; i < many && i < MOST; i++) {
                 for (int j = 0; j < k - 1; j++) {
                     System.arraycopy(names, i * MOST_TURNS, led, 0, k);
                     Orders.leadForward(led, j, ground.n);
@@ -1193,7 +1198,7 @@ public final class SphereSheets {
             for (int j = 0; j < ground.turns.length; j++) {
                 sift(ground.turns[j], n);
             }
-            for (int a = 0; a < many; a++) {
+            for (int a = 0; a < many && a < MOST_KEPT; a++) {
                 for (int b = 0; b <= a; b++) {
                     sift(Orders.behind(kept[a], kept[b], n), n);
                     sift(Orders.behind(kept[b], kept[a], n), n);
@@ -1266,7 +1271,7 @@ public final class SphereSheets {
         }
 
         void prepare(int n) {
-            if (n == listedFor) {
+            if (n == listedFor || n < 1 || n > MOST_JOINED) {
                 return;
             }
             listedFor = n;
