@@ -17,7 +17,7 @@ public final class SphereSheets {
     private final Namer namer;
     private final Ring rings;
     private final Heap heap;
-    private final ShapeList shapeList;
+    private final Shapes shapesListed;
     private int finding;
 
     public SphereSheets() {
@@ -29,9 +29,9 @@ public final class SphereSheets {
         traced = new Row(TRACED);
         traced.begin(INTS, 0);
         namer = new Namer();
-        rings = new Ring(namer);
+        rings = new Ring();
         heap = new Heap();
-        shapeList = new ShapeList();
+        shapesListed = new Shapes();
     }
 
     // ---- rows
@@ -264,7 +264,7 @@ public final class SphereSheets {
         if (ground.noTurn(turn)) {
             return BAD;
         }
-        return fine(Lengths.at(Lengths.of(ground.turnAt(turn), ground.n), i));
+        return fine(Shapes.lengthAt(Shapes.lengthsOf(ground.turnAt(turn), ground.n), i));
     }
 
     public int block(int place, int a, int b, int sheet) {
@@ -398,19 +398,19 @@ public final class SphereSheets {
         if (n < 2 || n > MOST_JOINED || m < 0 || m > MOST_EXCHANGES) {
             return BAD;
         }
-        shapeList.prepare(n);
-        return shapeList.lacks(s) ? BAD : shapeList.rowsOf(m, s);
+        shapesListed.prepare(n);
+        return shapesListed.lacks(s) ? BAD : shapesListed.rowsOf(m, s);
     }
 
     public int shapes(int n, int s, int i) {
         if (n < 1 || n > MOST_JOINED) {
             return BAD;
         }
-        shapeList.prepare(n);
+        shapesListed.prepare(n);
         if (s == NONE) {
-            return shapeList.many;
+            return shapesListed.many;
         }
-        return shapeList.lacks(s) ? BAD : Lengths.at(shapeList.lengthsAt(s), i);
+        return shapesListed.lacks(s) ? BAD : Shapes.lengthAt(shapesListed.lengthsAt(s), i);
     }
 
     public int count(int what) {
@@ -706,63 +706,6 @@ public final class SphereSheets {
         }
     }
 
-    /**
-     * SHAPES: in one long, for each length how often it is there, four bits each, the longest uppermost: so the greater
-     * row of lengths is the greater long, and cutting and joining are sums.
-     */
-    private static final class Lengths {
-        private Lengths() {
-        }
-
-        static long one(int length) {
-            return 1L << 4 * (length - 1);
-        }
-
-        static int times(long lengths, int length) {
-            return (int) (lengths >>> 4 * (length - 1)) & 15;
-        }
-
-        static long of(long order, int n) {
-            long lengths = 0;
-            int met = 0;
-            for (int x = 0; x < n; x++) {
-                int length = 0;
-                int y = x;
-                for (int step = 0; step < n && (met >> y & 1) == 0; step++) {
-                    met |= 1 << y;
-                    y = Orders.at(order, y);
-                    length++;
-                }
-                if (length > 0) {
-                    lengths += one(length);
-                }
-            }
-            return lengths;
-        }
-
-        static int total(long lengths) {
-            int total = 0;
-            for (int length = 1; length <= MOST_SHEETS; length++) {
-                total += times(lengths, length);
-            }
-            return total;
-        }
-
-        static int at(long lengths, int i) {
-            if (i < 0) {
-                return NONE;
-            }
-            int ahead = 0;
-            for (int length = MOST_SHEETS; length >= 1; length--) {
-                ahead += times(lengths, length);
-                if (i < ahead) {
-                    return length;
-                }
-            }
-            return NONE;
-        }
-    }
-
     private static class Cover {
         final int n;
         final long[] turns;
@@ -779,11 +722,11 @@ public final class SphereSheets {
             if (turns.length != 3) {
                 return exchangesAhead(n, turns) ? new Simple(n, turns, parts) : new Cover(n, turns, parts);
             }
-            long pairs = n / 2 * Lengths.one(2);
-            if (n % 2 != 0 || Lengths.of(turns[2], n) != pairs) {
+            long pairs = n / 2 * Shapes.one(2);
+            if (n % 2 != 0 || Shapes.lengthsOf(turns[2], n) != pairs) {
                 return new Three(n, turns, parts);
             }
-            if (Lengths.of(turns[1], n) != Lengths.one(n)) {
+            if (Shapes.lengthsOf(turns[1], n) != Shapes.one(n)) {
                 return new Bristled(n, turns, parts);
             }
             return new One(n, turns, parts);
@@ -793,9 +736,9 @@ public final class SphereSheets {
             if (n < 2 || turns.length < 2) {
                 return false;
             }
-            long exchange = Lengths.one(2) + (n - 2) * Lengths.one(1);
+            long exchange = Shapes.one(2) + (n - 2) * Shapes.one(1);
             for (int j = 0; j < turns.length - 1; j++) {
-                if (Lengths.of(turns[j], n) != exchange) {
+                if (Shapes.lengthsOf(turns[j], n) != exchange) {
                     return false;
                 }
             }
@@ -841,7 +784,7 @@ public final class SphereSheets {
         }
 
         int rounds(int j) {
-            return Lengths.total(Lengths.of(turnAt(j), n));
+            return Shapes.total(Shapes.lengthsOf(turnAt(j), n));
         }
 
         boolean whole() {
@@ -1120,8 +1063,8 @@ public final class SphereSheets {
         private final long[] names;
         private int many;
 
-        Ring(Namer namer) {
-            this.namer = namer;
+        Ring() {
+            namer = new Namer();
             names = new long[MOST * MOST_TURNS];
         }
 
@@ -1244,8 +1187,12 @@ public final class SphereSheets {
         }
     }
 
-    /** The SHAPES of one n and their JOINS, kept until another n is wanted. */
-    private static final class ShapeList {
+    /**
+     * SHAPES: in one long, for each length how often it is there, four bits each, the longest uppermost: so the greater
+     * row of lengths is the greater long, and cutting and joining are sums. All those of one n and their JOINS are kept
+     * until another n is wanted.
+     */
+    private static final class Shapes {
         private static final int MOST = 42;
 
         private final long[] list;
@@ -1253,9 +1200,57 @@ public final class SphereSheets {
         private int listedFor;
         int many;
 
-        ShapeList() {
+        Shapes() {
             list = new long[MOST];
             ways = new long[(MOST_EXCHANGES + 1) * MOST];
+        }
+
+        static long one(int length) {
+            return 1L << 4 * (length - 1);
+        }
+
+        static int times(long lengths, int length) {
+            return (int) (lengths >>> 4 * (length - 1)) & 15;
+        }
+
+        static long lengthsOf(long order, int n) {
+            long lengths = 0;
+            int met = 0;
+            for (int x = 0; x < n; x++) {
+                int length = 0;
+                int y = x;
+                for (int step = 0; step < n && (met >> y & 1) == 0; step++) {
+                    met |= 1 << y;
+                    y = Orders.at(order, y);
+                    length++;
+                }
+                if (length > 0) {
+                    lengths += one(length);
+                }
+            }
+            return lengths;
+        }
+
+        static int total(long lengths) {
+            int total = 0;
+            for (int length = 1; length <= MOST_SHEETS; length++) {
+                total += times(lengths, length);
+            }
+            return total;
+        }
+
+        static int lengthAt(long lengths, int i) {
+            if (i < 0) {
+                return NONE;
+            }
+            int ahead = 0;
+            for (int length = MOST_SHEETS; length >= 1; length--) {
+                ahead += times(lengths, length);
+                if (i < ahead) {
+                    return length;
+                }
+            }
+            return NONE;
         }
 
         boolean lacks(int s) {
@@ -1278,7 +1273,9 @@ public final class SphereSheets {
             listAll(n);
             // Without an exchange only the order that leaves all SHEETS is made; its SHAPE is the last.
             Arrays.fill(ways, 0);
-            ways[many - 1] = 1;
+            if (many > 0) {
+                ways[many - 1] = 1;
+            }
             for (int m = 1; m <= MOST_EXCHANGES; m++) {
                 for (int s = 0; s < many; s++) {
                     ways[m * MOST + s] = cutAndJoined(list[s], m - 1, n);
@@ -1287,7 +1284,7 @@ public final class SphereSheets {
         }
 
         private void listAll(int n) {
-            long lengths = Lengths.one(n);
+            long lengths = one(n);
             many = 0;
             for (int s = 0; s < MOST && lengths != 0; s++) {
                 list[s] = lengths;
@@ -1298,14 +1295,14 @@ public final class SphereSheets {
 
         /** The least length above 1 is lessened by 1, and what it and the ones held is laid out anew; 0: none is left. */
         private long nextBelow(long lengths, int n) {
-            int ones = Lengths.times(lengths, 1);
+            int ones = times(lengths, 1);
             for (int length = 2; length <= n; length++) {
-                if (Lengths.times(lengths, length) > 0) {
+                if (times(lengths, length) > 0) {
                     int room = length + ones;
                     int rest = room % (length - 1);
-                    long next = lengths - Lengths.one(length) - ones * Lengths.one(1);
-                    next += room / (length - 1) * Lengths.one(length - 1);
-                    return rest > 0 ? next + Lengths.one(rest) : next;
+                    long next = lengths - one(length) - ones * one(1);
+                    next += room / (length - 1) * one(length - 1);
+                    return rest > 0 ? next + one(rest) : next;
                 }
             }
             return 0;
@@ -1315,15 +1312,15 @@ public final class SphereSheets {
         private long cutAndJoined(long lengths, int m, int n) {
             long sum = 0;
             for (int a = 1; a <= n; a++) {
-                int times = Lengths.times(lengths, a);
-                if (times == 0) {
+                int rounds = times(lengths, a);
+                if (rounds == 0) {
                     continue;
                 }
-                sum += times * cut(lengths, a, m);
+                sum += rounds * cut(lengths, a, m);
                 for (int b = a; b <= n; b++) {
-                    int pairs = a == b ? times * (times - 1) / 2 : times * Lengths.times(lengths, b);
+                    int pairs = a == b ? rounds * (rounds - 1) / 2 : rounds * times(lengths, b);
                     if (pairs > 0) {
-                        long whole = lengths - Lengths.one(a) - Lengths.one(b) + Lengths.one(a + b);
+                        long whole = lengths - one(a) - one(b) + one(a + b);
                         sum += pairs * a * b * rowsOf(m, indexOf(whole));
                     }
                 }
@@ -1336,7 +1333,7 @@ public final class SphereSheets {
             long sum = 0;
             for (int d = 1; 2 * d <= a; d++) {
                 int exchanges = 2 * d == a ? d : a;
-                long halves = lengths - Lengths.one(a) + Lengths.one(d) + Lengths.one(a - d);
+                long halves = lengths - one(a) + one(d) + one(a - d);
                 sum += exchanges * rowsOf(m, indexOf(halves));
             }
             return sum;

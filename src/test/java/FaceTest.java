@@ -33,7 +33,7 @@ public final class FaceTest {
             check(Modifier.isStatic(m) && !Modifier.isPublic(m) && !Modifier.isProtected(m), inside + " is hidden");
             checkInside(inside);
         }
-        check(classes <= 14, "some twelve classes");
+        check(classes <= 12, "some twelve classes");
         if (wrong != 0) {
             System.exit(1);
         }
