@@ -383,6 +383,8 @@ final class TermsSentences extends Sentences {
         due(x.kind(0), NULL);
         lay(0, 4, 3, 1, 0, 3, 2, 2, 1, 0, 3);
         due(x.told(0, 4), 2);
+        lay(0, 1, 1);
+        due(x.told(0, 4), 1);
         lay(0, 1, 8, 0, 0, 0, 0, 0, 0, 0);
         due(x.told(0, 4), 1);
         lay(0, 12, 2, shifts(12, 5));
@@ -404,6 +406,11 @@ final class TermsSentences extends Sentences {
         due(x.told(0, 5), 6);
         lay(0, 4, 3, joined(shifts(4, 1), exchanging(4, 0, 2)));
         due(x.told(0, 5), 8);
+        lay(0, 4, 4, joined(exchanging(4, 0, 1, 2, 3), exchanging(4, 1, 2), exchanging(4)));
+        due(x.told(0, 5), 8);
+        // Four exchanges that do not meet, led round: each done or not, times four.
+        lay(0, 8, 4, joined(exchanging(8, 2, 7), shifts(8, 6, 2)));
+        due(x.told(0, 5), 64);
         lay(0, 12, 3, joined(shifts(12, 1), exchanging(12, 0, 1)));
         due(x.told(0, 5), 479001600);
         int[] three = exchanging(12);
