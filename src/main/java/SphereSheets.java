@@ -658,13 +658,20 @@ public final class SphereSheets {
             return joined;
         }
 
+        /** For each x the groups of the SHEETS that two orders lead it to become one. */
+        static long mergedAlong(long labels, long first, long second, int n) {
+            long joined = labels;
+            for (int x = 0; x < n; x++) {
+                joined = merged(joined, at(joined, at(first, x)), at(joined, at(second, x)), n);
+            }
+            return joined;
+        }
+
         /** Labels of the PARTS. */
         static long ledTogether(long[] turns, int n) {
             long labels = still(n);
             for (int j = 0; j < turns.length; j++) {
-                for (int x = 0; x < n; x++) {
-                    labels = merged(labels, at(labels, x), at(labels, at(turns[j], x)), n);
-                }
+                labels = mergedAlong(labels, still(n), turns[j], n);
             }
             return labels;
         }
@@ -683,6 +690,17 @@ public final class SphereSheets {
         /** How many groups have their least SHEET below a bound; of a label: its group's number. */
         static int groups(long labels, int bound) {
             return Integer.bitCount(leaders(labels, bound));
+        }
+
+        /** How many SHEETS are together with SHEET 0. */
+        static int withFirst(long labels, int n) {
+            int together = 0;
+            for (int x = 0; x < n; x++) {
+                if (at(labels, x) == 0) {
+                    together++;
+                }
+            }
+            return together;
         }
 
         static void leadForward(long[] turns, int j, int n) {
@@ -805,23 +823,14 @@ public final class SphereSheets {
             for (int pass = 0; pass < n; pass++) {
                 long ahead = labels;
                 for (int j = 0; j < turns.length; j++) {
-                    labels = keptBy(turns[j], labels);
+                    // A SHEET and the least one of its BLOCK are led to one BLOCK.
+                    labels = Orders.mergedAlong(labels, turns[j], Orders.behind(labels, turns[j], n), n);
                 }
                 if (labels == ahead) {
                     break;
                 }
             }
             return labels;
-        }
-
-        private long keptBy(long turn, long labels) {
-            long kept = labels;
-            for (int x = 0; x < n; x++) {
-                int led = Orders.at(turn, x);
-                int leaderLed = Orders.at(turn, Orders.at(kept, x));
-                kept = Orders.merged(kept, Orders.at(kept, led), Orders.at(kept, leaderLed), n);
-            }
-            return kept;
         }
 
         Cover partAlone(int p) {
@@ -983,23 +992,30 @@ public final class SphereSheets {
             least = new long[MOST_TURNS];
         }
 
+        /**
+         * Two SHEETS of one NAME tell how the COVER is led onto itself: what gets the same number from both is alike,
+         * too. From one of the SHEETS that are alike a NAME is enough.
+         */
         void find(long[] turns, int n) {
-            likes = 0;
             if (turns.length < 1 || turns.length > least.length) {
                 return;
             }
+            long alike = Orders.still(n);
+            long leastOldOf = 0;
             for (int start = 0; start < n; start++) {
-                if (!numberFrom(start, turns, n)) {
+                if (Orders.at(alike, start) != start || !numberFrom(start, turns, n)) {
                     continue;
                 }
-                int sign = likes == 0 ? -1 : againstLeast(turns, n);
+                int sign = start == 0 ? -1 : againstLeast(turns, n);
                 if (sign < 0) {
                     keepAsLeast(turns, n);
-                    likes = 1;
+                    leastOldOf = oldOf;
                 } else if (sign == 0) {
-                    likes++;
+                    alike = Orders.mergedAlong(alike, leastOldOf, oldOf, n);
                 }
             }
+            // What leads a COVER onto itself leaves no SHEET or all: so each SHEET has as many that are alike to it.
+            likes = Orders.withFirst(alike, n);
         }
 
         /**
@@ -1011,7 +1027,7 @@ public final class SphereSheets {
             oldOf = Orders.with(0, 0, start);
             int met = 1 << start;
             int given = 1;
-            boolean even = likes > 0;
+            boolean even = start > 0;
             for (int x = 0; x < given && given < n; x++) {
                 int old = Orders.at(oldOf, x);
                 for (int j = 0; j < turns.length; j++) {
@@ -1022,19 +1038,25 @@ public final class SphereSheets {
                         oldOf = Orders.with(oldOf, given, led);
                         given++;
                     }
+                    if (even && j == 0) {
+                        int sign = Orders.at(newOf, led) - Orders.at(least[0], x);
+                        if (sign > 0) {
+                            return false;
+                        }
+                        even = sign == 0;
+                    }
                 }
-                int ledTo = Orders.at(newOf, Orders.at(turns[0], old));
-                int leastTo = Orders.at(least[0], x);
-                if (even && ledTo > leastTo) {
-                    return false;
-                }
-                even = even && ledTo == leastTo;
             }
             return true;
         }
 
         private long renamed(long turn, int n) {
-            return Orders.behind(Orders.behind(oldOf, turn, n), newOf, n);
+            long order = 0;
+            for (int x = 0; x < n; x++) {
+                int led = Orders.at(turn, Orders.at(oldOf, x));
+                order = Orders.with(order, x, Orders.at(newOf, led));
+            }
+            return order;
         }
 
         private int againstLeast(long[] turns, int n) {
@@ -1293,7 +1315,7 @@ public final class SphereSheets {
             }
         }
 
-        /** The least length above 1 is lessened by 1, and what it and the ones held is laid out anew; 0: none is left. */
+        /** The least length above 1 is lessened by 1; what it and the ones held is laid out anew; 0: none is left. */
         private long nextBelow(long lengths, int n) {
             int ones = times(lengths, 1);
             for (int length = 2; length <= n; length++) {
@@ -1328,7 +1350,7 @@ public final class SphereSheets {
             return sum;
         }
 
-        /** Of one ROUND: two SHEETS of it that lie d apart cut it there; those that lie halfway are met from both ends. */
+        /** Of one ROUND: two SHEETS that lie d apart cut it there; those that lie halfway are met from both ends. */
         private long cut(long lengths, int a, int m) {
             long sum = 0;
             for (int d = 1; 2 * d <= a; d++) {
