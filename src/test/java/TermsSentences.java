@@ -523,10 +523,16 @@ final class TermsSentences extends Sentences {
         due(x.ring(0), 300);
         due(x.status(), 0);
         due(x.kind(9), NULL);
-        lay(0, 5, 4, 4, 2, 3, 1, 0, 2, 4, 1, 3, 0, 3, 1, 2, 0, 4);
+        // Of 308 names: nearer ones beyond the bound were not found.
+        lay(0, 7, 4, 5, 6, 3, 0, 2, 1, 4, 3, 5, 0, 6, 1, 2, 4, 2, 5, 6, 1, 0, 4, 3);
         due(x.as(0, 1), KIND);
         due(x.ring(0), FULL);
         due(x.status(), 3);
+        // Of 310 names, and of 312.
+        lay(0, 5, 5, 4, 3, 2, 1, 0, 4, 3, 2, 1, 0, 0, 2, 4, 1, 3, 4, 3, 2, 1, 0);
+        due(x.ring(0), FULL);
+        lay(0, 5, 4, 4, 2, 3, 1, 0, 2, 4, 1, 3, 0, 3, 1, 2, 0, 4);
+        due(x.ring(0), FULL);
     }
 
     private static void mirrorAndDual() {
